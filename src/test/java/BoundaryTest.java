@@ -774,27 +774,33 @@ public final class BoundaryTest {
 
     private static void nothingThrows() {
         for (int reads = 0; reads <= 8; reads++) {
+            // Also far behind its 512th call, where answers are free but no call may throw.
+            ReadPhaser worn = loud(reads);
             for (int a : ODD) {
                 for (int b : ODD) {
-                    ReadPhaser x = loud(reads);
-                    x.say(a, b, a, b);
-                    x.say(b, a, b, a);
-                    x.stretch(a, b, a);
-                    x.stretch(b, a, 1);
-                    x.costOf(a);
-                    x.leastWith(a, b, true);
-                    x.leastWith(a, b, false);
-                    x.cover(a);
-                    x.least();
-                    x.sorting();
-                    x.ties();
-                    x.leastForced();
-                    x.sortingForced();
-                    x.read();
-                    x.drop();
+                    callAll(loud(reads), a, b);
+                    callAll(worn, a, b);
                 }
             }
         }
+    }
+
+    private static void callAll(ReadPhaser x, int a, int b) {
+        x.say(a, b, a, b);
+        x.say(b, a, b, a);
+        x.stretch(a, b, a);
+        x.stretch(b, a, 1);
+        x.costOf(a);
+        x.leastWith(a, b, true);
+        x.leastWith(a, b, false);
+        x.cover(a);
+        x.least();
+        x.sorting();
+        x.ties();
+        x.leastForced();
+        x.sortingForced();
+        x.read();
+        x.drop();
     }
 
     private static void terms() {
